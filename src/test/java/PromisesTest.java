@@ -231,7 +231,7 @@ public final class PromisesTest {
     private static void knowingManySteps() {
         TermSecrets x = nestedPairs();
         due("6: hear the outermost pair", x.hear(27), 28);
-        due("6: knows(0), twenty steps in", x.knows(0), 1);
+        due("6: knows(0), in the innermost pair", x.knows(0), 1);
         due("6: unhear it", x.unhear(27), 0);
         for (int atom = 0; atom < 7; atom++) {
             x.hear(atom);
@@ -240,6 +240,19 @@ public final class PromisesTest {
         due("6: knows(13)", x.knows(13), 1);
         due("6: knows(14)", x.knows(14), 0);
         due("6: all eight atoms", x.hear(7), 28);
+
+        // Locked twenty times with one key: each layer comes off only after the one around it.
+        TermSecrets z = new TermSecrets();
+        due("6: innermost layer", z.lock(0, 1), 8);
+        for (int term = 9; term < 28; term++) {
+            due("6: layer to be " + term, z.lock(0, term - 1), term);
+        }
+        due("6: hear the outermost layer", z.hear(27), 1);
+        due("6: all layers would come off", z.would(0, 1), 1);
+        due("6: leak through all layers", z.leak(1), 0);
+        due("6: all layers come off", z.hear(0), 22);
+        due("6: knows(1), twenty layers in", z.knows(1), 1);
+        due("6: only the outermost layer is left", z.unhear(0), 1);
 
         // Each key lies in a later term than the one it opens, so that each step waits for the one before.
         TermSecrets y = new TermSecrets();
