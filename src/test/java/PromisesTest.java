@@ -26,6 +26,7 @@ public final class PromisesTest {
         refusingAtoms();
         refusingChangesNothing();
         refusingWhenFull();
+        readmeExample();
         System.out.println(wrong == 0 ? "all answers are as due" : wrong + " answers are not as due");
         if (wrong != 0) {
             System.exit(1);
@@ -464,5 +465,23 @@ public final class PromisesTest {
         due("full: hear(27)", x.hear(27), 28);
         due("full: unhear(9)", x.unhear(9), 28);
         due("full: leak(27), known", x.leak(27), -2);
+    }
+
+    private static void readmeExample() {
+        TermSecrets x = new TermSecrets();
+        due("README: lock(0, 1)", x.lock(0, 1), 8);
+        due("README: pair(8, 2)", x.pair(8, 2), 9);
+        due("README: hear(9)", x.hear(9), 3);
+        due("README: known()", x.known(), 3);
+        due("README: knows(1)", x.knows(1), 0);
+        due("README: would(0, 1)", x.would(0, 1), 1);
+        due("README: leak(1)", x.leak(1), 0);
+        due("README: leak(2)", x.leak(2), -2);
+        due("README: atomsFor(1)", x.atomsFor(1), 1);
+        due("README: spare()", x.spare(), 0);
+        due("README: hear(8)", x.hear(8), 3);
+        due("README: spare() with 8", x.spare(), 1);
+        due("README: unhear(9)", x.unhear(9), 1);
+        due("README: knows(10)", x.knows(10), -1);
     }
 }
